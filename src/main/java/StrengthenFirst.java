@@ -975,6 +975,7 @@ public final class StrengthenFirst {
         private final Town town;
         private final int[] fronted = new int[HOUSES_MOST];
         private final int[] people = new int[HOUSES_MOST];
+        private final int[] falls = new int[HOUSES_MOST];
         private final int[] shutStreets = new int[SETS];
         private final int[] cutOff = new int[SETS];
         private final long[] harm = new long[SETS];
@@ -1055,20 +1056,23 @@ public final class StrengthenFirst {
 
         /** Folds the sets HOUSE by HOUSE: each half without it, and that with it, by its tenths. */
         long sumOver(int shake, int[] by) {
-            addOthers(shake, by);
+            for (int h = 0; h < town.houses; h++) {
+                falls[h] = town.tenths(h, shake, by);
+            }
+            addOthers();
             for (int i = frontedCount - 1; i >= 0; i--) {
-                int falls = town.tenths(fronted[i], shake, by);
-                int stands = 10 - falls;
+                int fall = falls[fronted[i]];
+                int stand = 10 - fall;
                 int half = 1 << i;
                 for (int set = 0; set < half; set++) {
-                    sums[set] = sums[set] * stands + sums[half + set] * falls;
+                    sums[set] = sums[set] * stand + sums[half + set] * fall;
                 }
             }
             return sums[0];
         }
 
         /** What each set does, of WHOLE of the HOUSES without a FRONT: with what befalls these when it cuts so. */
-        private void addOthers(int shake, int[] by) {
+        private void addOthers() {
             Arrays.fill(harmIfCut, 0L);
             long harmAlways = 0L;
             long whole = 1L;
@@ -1076,9 +1080,8 @@ public final class StrengthenFirst {
             for (int h = 0; h < town.houses; h++) {
                 House other = town.house[h];
                 if (other.front == NONE) {
-                    int falls = town.tenths(h, shake, by);
-                    harmAlways += 10L * falls * people[h];
-                    harmIfCut[other.corner] += (long) caughtTimes * (10 - falls) * people[h];
+                    harmAlways += 10L * falls[h] * people[h];
+                    harmIfCut[other.corner] += (long) caughtTimes * (10 - falls[h]) * people[h];
                     wholeButOne = whole;
                     whole *= 10L;
                 }
