@@ -922,7 +922,7 @@ public final class PromisesTest {
         for (int i = 0; i < 4; i++) {
             x.house(0, 0, 0, 0, 1);
         }
-        due("five may be", x.best(1), 558000);
+        due("five may be, WHOLE is 10000 times as much", x.best(1), 5580000000L);
         x.house(0, 0, 0, 0, 1);
         due("six may not", x.best(1), -6);
         promise = 34;
