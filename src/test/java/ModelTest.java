@@ -34,7 +34,7 @@ public final class ModelTest {
             }
         }
         for (Method method : StrengthenFirst.class.getDeclaredMethods()) {
-            if (java.lang.reflect.Modifier.isPublic(method.getModifiers()) && FINE.getOrDefault(method.getName(), 0) < 20) {
+            if (java.lang.reflect.Modifier.isPublic(method.getModifiers()) && FINE.getOrDefault(method.getName(), 0) < RUNS / 10) {
                 System.out.println("too few calls answered in earnest: " + method.getName());
                 System.exit(1);
             }

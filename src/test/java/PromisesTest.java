@@ -32,6 +32,7 @@ public final class PromisesTest {
         judges();
         bests();
         bestTies();
+        bestIsLast();
         heads();
         narrows();
         years();
@@ -234,6 +235,8 @@ public final class PromisesTest {
         due("weak of none", x.says(2, 2), NONE);
         x.street(0, 1);
         x.house(1, 5, 1, 1, 30);
+        due("full of one", x.says(1, 1), 0);
+        due("weak of one", x.says(2, 2), 0);
         x.house(1, 9, 9, 9, 31);
         x.house(1, 2, 5, 5, 29);
         x.front(2, 0);
@@ -786,6 +789,18 @@ public final class PromisesTest {
         y.shake(1, 0);
         // 0: 4 tenths of 50; 2: 4 of 19; 1: 4 of 20, but 1 of 99 more for 3's wall: below 0, till 3 has its STEP
         orderIs(y, 4, 99, "0231");
+        StrengthenFirst z = new StrengthenFirst();
+        z.house(0, 4, 0, 10, 1);
+        z.house(0, 4, 0, 20, 1);
+        z.house(0, 1, 0, 99, 1);
+        z.next(2, 1);
+        orderIs(z, 4, 99, "012");
+        z.shake(1, 0);
+        // 1's STEP is worth 80, less 99 for 2's wall; when 2 has its own, the wall is no matter: 80 is above 0's 40
+        orderIs(z, 4, 99, "210");
+        z.alter(2, 2, 2);
+        z.alter(0, 1, 20);
+        orderIs(z, 4, 99, "01");
     }
 
     private static void orderIs(StrengthenFirst x, int kind, int a, String want) {
@@ -947,6 +962,19 @@ public final class PromisesTest {
             for (int i = 0; i < 5; i++) {
                 due("place " + i + " of " + n + " years", x.first(n, i), rows[n - 1].charAt(i) - '0');
             }
+        }
+    }
+
+    /** The last of all 120 rows is the best. */
+    private static void bestIsLast() {
+        promise = 34;
+        StrengthenFirst x = new StrengthenFirst();
+        for (int i = 0; i < 5; i++) {
+            x.house(0, 4, 0, 10 * i, 50);
+        }
+        x.shake(9, 0);
+        for (int i = 0; i < 5; i++) {
+            due("place " + i + " of five years", x.first(5, i), 4 - i);
         }
     }
 
