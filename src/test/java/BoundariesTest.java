@@ -41,6 +41,7 @@ public final class BoundariesTest {
         emptyTown();
         fullTown();
         statuses();
+        manyCalls();
         if (wrong != 0) {
             System.out.println(wrong + " boundaries are not kept");
             System.exit(1);
@@ -1596,14 +1597,9 @@ public final class BoundariesTest {
         x.town(5);
         due("none stays", x.fault(), NONE);
         x.row(7, 0, 0);
-        refused(x, "an empty ROW", t -> {
-            int answer = t.town(7);
-            read(t, "coin 5");
-            x.row(7, 0, 0);
-            return answer;
-        }, -6);
-        x.town(7);
+        due("an empty ROW", x.town(7), -6);
         due("its FAULT", x.fault(), 0);
+        refused(x, "an empty ROW again", t -> t.town(7), -6);
     }
 
     private static void refusalsOfShakes() {
@@ -1846,11 +1842,19 @@ public final class BoundariesTest {
             due("place " + i + " of the state", after.get(i), image.get(i));
         }
         sentence("an IMAGE is not changed by what comes after it, nor by restore()");
+        int day = x.houseOf(0, 2);
         x.alter(0, 0, 77);
         due("restored", x.restore(), 2);
+        due("DAY", x.houseOf(0, 2), day);
         x.alter(0, 0, 78);
         due("restored", x.restore(), 2);
-        due("DAY", x.houseOf(0, 2), image.get(image.size() - 1) >= 0 ? x.alter(0, 0, 5) : -1);
+        due("DAY", x.houseOf(0, 2), day);
+        sentence("a new IMAGE is taken instead of the one ahead");
+        x.alter(0, 0, 78);
+        due("image", x.image(), 2);
+        x.alter(0, 0, 79);
+        due("restored", x.restore(), 2);
+        due("DAY", x.houseOf(0, 2), 78);
     }
 
     private static void nothingIsRefused() {
@@ -2018,5 +2022,28 @@ public final class BoundariesTest {
         for (int off : new int[] {-1, 9, 10, 18, 19, LOW, HIGH}) {
             fine(x, "status(" + off + ")", t -> t.status(off), NONE);
         }
+    }
+
+    private static void manyCalls() {
+        sentence("An object is used for at most 512 calls");
+        StrengthenFirst x = new StrengthenFirst();
+        x.rule(0, 0, 0);
+        x.ask(0, 999);
+        x.house(1, 9, 99, 99, 99);
+        x.shake(99, 9);
+        x.seed(LOW);
+        int gone = 0;
+        for (int call = 0; call < 500; call++) {
+            gone += x.years(0, 20);
+        }
+        due("THE YEAR", x.status(5), 10_000);
+        due("PURSE", x.status(4), 9_990_000 - 2 * 99);
+        due("GONE", x.status(6), gone);
+        due("all are GONE at once", gone % 99, 0);
+        due("DAY", x.houseOf(0, 2), 99);
+        for (int call = 0; call < 512; call++) {
+            x.street(0, 0);
+        }
+        due("REFUSALS", x.status(16), 512);
     }
 }
